@@ -174,9 +174,15 @@ public final class PlansTest {
         CHECK.due("undone: p", x.taughtAt(3, 2, 0), 1);
         x.hold(0);
         x.minutes(1);
-        CHECK.due("a minute later they are on their way", x.taught(3, 1), 0);
+        CHECK.due("a minute later p is on its way with a, q is not", x.taught(3, 2), 15);
         x.restore(0);
         CHECK.due("restored: worth", x.taught(3, 2), 25);
+        CHECK.due("p alone: worth", x.taught(1, 2), 10);
+        x.give(0, 1, 5);
+        CHECK.due("p alone, without b: worth", x.taught(1, 2), 0);
+        CHECK.due("p alone, without b: what", x.taughtAt(1, 2, 0), 0);
+        Check.read(x, "grain a 5 7; hole h 1 a; rat p a h 0 0;");
+        CHECK.due("of another text: worth", x.taught(1, 2), 35);
     }
 
     private static void bestSwap() {
@@ -265,6 +271,8 @@ public final class PlansTest {
         CHECK.due("it eats just then", fed.starves(0), -2);
         RatSorters late = Check.of("grain a 10 1; hole h 1 a; rat r a h 0 0; lamp 0; odd 50;");
         CHECK.due("ten times 50 minutes", late.starves(0), 599);
+        CHECK.due("167 times 3 minutes", Check.of("grain a 167 1; hole h 1 a; rat r a h 0 0; lamp 0; odd 3;").starves(0), 600);
+        CHECK.due("168 times 3 minutes", Check.of("grain a 168 1; hole h 1 a; rat r a h 0 0; lamp 0; odd 3;").starves(0), -2);
     }
 
     /** The lots of minute 0 by seed, reckoned apart from the program: 83 41 64 14 38 7 31 98. */

@@ -7,6 +7,7 @@ public final class TapeTest {
         feeding();
         goingBack();
         reading();
+        readingAgain();
         syntax();
         lawSyntax();
         room();
@@ -58,7 +59,9 @@ public final class TapeTest {
         CHECK.due("feed of a full tape: count(11)", x.count(11), 2000);
         CHECK.due("back by one", x.back(1), 1999);
         CHECK.due("feed of a nearly full tape", x.feed(0, 0, 0, 0, 0), -1);
-        CHECK.due("back by 19 more", x.back(19), 1980);
+        CHECK.due("back by 18 more", x.back(18), 1981);
+        CHECK.due("feed of one byte too many", x.feed(0, 0, 0, 0, 0), -1);
+        CHECK.due("back by another", x.back(1), 1980);
         CHECK.due("feed of what just fits", x.feed(0x20202020, 0x20202020, 0x20202020, 0x20202020, 0xff202020), 2000);
         CHECK.due("read: a byte of 255", x.read(), 1);
         CHECK.due("place: a byte of 255", x.place(), 1996);
@@ -117,6 +120,18 @@ public final class TapeTest {
         CHECK.due("the tape is empty then", x.count(11), 0);
         CHECK.due("read once more", x.read(), 0);
         CHECK.due("place is the latest one's", x.place(), -1);
+    }
+
+    /** Longest laws, one text behind another: each is read as if it were the first. */
+    private static void readingAgain() {
+        RatSorters x = new RatSorters();
+        for (int i = 0; i < 6; i++) {
+            String text = "grain g 99 1;hole h 1 g;rat r g h 0 0;";
+            CHECK.due("long law " + i, Check.read(x, text + "load=" + i + times(100, "+1/3") + "+" + i + ";"), 2);
+            CHECK.due("law of most tokens " + i, Check.read(x, text + "load=" + i + times(90, "+1*3") + "-255;"), 0);
+            x.minutes(1);
+            CHECK.due("law of most tokens " + i + ": loads", x.rat(0, 2), 15 + i);
+        }
     }
 
     private static void syntax() {
