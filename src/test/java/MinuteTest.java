@@ -173,7 +173,27 @@ public final class MinuteTest {
         CHECK.due("cat: loads again", cat.rat(0, 0), 1);
         RatSorters untold = Check.of("grain g 9 1; hole h 1 g; rat r g h 0 0; load = dark / 1111;");
         untold.minutes(1);
-        CHECK.due("the lamp is out at 9999, if not told", untold.rat(0, 2), 9);
+        CHECK.due("9999 minutes till the lamp is out, if not told", untold.rat(0, 2), 9);
+        lastMinute("", 9999);
+        lastMinute("lamp 700;", 700);
+    }
+
+    /** In the minute ahead of it a rat that comes back from home loads yet; then it does not. */
+    private static void lastMinute(String lamp, int out) {
+        RatSorters x = Check.of("grain g 9 1; hole h 1 g; rat r g h 0 0; load = dark + 2; odd 99;" + lamp);
+        x.send(0, true);
+        for (int minute = 0; minute < out - 1;) {
+            minute = x.minutes(Math.min(600, out - 1 - minute));
+        }
+        x.send(0, false);
+        x.minutes(1);
+        CHECK.due("ahead of " + out + ": it loads", x.rat(0, 2), 3);
+        x.undo();
+        x.cat(1);
+        x.minutes(1);
+        CHECK.due("at " + out + ": the minute", x.count(4), out);
+        x.minutes(50);
+        CHECK.due("at " + out + ": it does not", x.heap(0), 9);
     }
 
     private static void load(String law, int due) {

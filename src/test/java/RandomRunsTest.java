@@ -2,7 +2,7 @@ import java.util.Random;
 
 /** Random runs of calls, each answer compared with the Model's. */
 public final class RandomRunsTest {
-    private static final int RUNS = Integer.getInteger("runs", 400);
+    private static final int RUNS = Integer.getInteger("runs", 1500);
 
     private final Random random;
     private final TextMaker maker;

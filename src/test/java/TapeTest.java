@@ -229,6 +229,8 @@ public final class TapeTest {
         fault("grain g 12345 2;", 1, 8);
         fault("graing 1 2;", 1, 0);
         fine("grain g1 2;hole h1g;");
+        fine("grain a 1 1; grain aa 1 1; grain aaa 1 1; hole ab 1 aa; hole ba 1 aaa; hole az 1 a; hole ca 1 a;");
+        fault("grain zzzzzzzz 1 1; grain zzzzzzz 1 1; grain zzzzzzzz 1 1;", 3, 45);
         fine("grain grains 1 2; grain hungers 1 1; grain rats 1 1; grain tri 1 1;");
         String many = times(132, "odd 5;") + "load=5;";
         fine(many);
