@@ -107,6 +107,7 @@ final class EdgesByHand {
         s.due("fat 9 at most", x.rat(0, 5), 9);
         x.give(1, 0, 3);
         s.due("1 more, however many", x.rat(1, 5), 1);
+        s.due("all that were given are eaten", x.count(5), 14);
     }
 
     private void sent() {
@@ -168,6 +169,7 @@ final class EdgesByHand {
         s.due("once", x.sell(0), false);
         s.due("2 of a", x.sell(1), true);
         s.due("coins of both", x.count(6), 16);
+        s.due("both are sold to", x.count(7), 3);
         s.due("left of all", x.hole(2, 0), 1);
         s.due("what is sold is gone", x.count(15), 29 - 7);
     }
@@ -321,6 +323,15 @@ final class EdgesByHand {
         RatSorters y = Check.of(TWO);
         y.minutes(2);
         s.due("more than enough", y.sell(0), true);
+        RatSorters six = Check.of("grain a 1 1; grain b 1 1; grain c 1 1; grain d 1 1; grain e 1 1; grain f 5 1; hole h 1 a;"
+                + " hole i 1 b; hole j 1 c; hole k 1 d; hole l 1 e; hole m 1 f; rat r f m 0 0;"
+                + " wants 5; wants 6 f 5; wants 7 a 1; wants 8 a 1; wants 9;");
+        six.minutes(2);
+        s.due("the first of five, who wants none of six", six.sell(0), true);
+        s.due("the next, who wants the last of six", six.sell(1), true);
+        s.due("out of the last of six", six.hole(5, 5), 0);
+        s.due("the last of five", six.sell(4), true);
+        s.due("the three of them", six.count(7), 19);
 
         s.says("Promise 18", "false, and nothing happens: not enough, sold to already, no such MERCHANT.");
         s.refused("one too few", x, z -> z.sell(3));

@@ -193,6 +193,12 @@ final class EdgesOfMinutes {
         more.cat(1);
         more.minutes(1);
         s.due("more than ODD", more.rat(0, 4), 0);
+        RatSorters six = Check.of("grain a 0 1; grain b 1 1; grain c 1 1; grain d 1 1; grain e 1 1; grain f 2 1; hole h 1 a;"
+                + " rat r a h 0 0; odd 1;");
+        six.minutes(1);
+        s.due("the last of six", six.heap(5), 1);
+        six.minutes(4);
+        s.due("then one of each that is left", six.heap(5), 1);
         RatSorters walking = Check.of("grain a 9 1; hole h 9 a; rat r a h 0 0; odd 2;");
         walking.minutes(19);
         s.due("on its way it does not eat", walking.count(5), 0);
@@ -214,6 +220,9 @@ final class EdgesOfMinutes {
         nothing.minutes(3);
         rat("with nothing", nothing, 0, 2, 2, 0, -2, 2, 0, 0, 0, -2);
         s.due("with nothing: the hole", nothing.hole(0, 0), 0);
+        RatSorters one = Check.of("grain a 9 1; hole h 2 a; rat r a h 0 0; load = 1;");
+        one.minutes(3);
+        rat("with one", one, 0, 2, 2, 0, -2, 3, 0, 0, 1, -2);
         RatSorters astray = Check.of("grain a 9 1; hole h 2 a; hole i 5 a; rat r a h 0 0; errs = 100;");
         astray.minutes(6);
         s.due("back from where it went", astray.rat(0, 1), 5);
@@ -574,6 +583,10 @@ final class EdgesOfMinutes {
         RatSorters nothing = Check.of("grain g 20 2; hole h 2 g; rat r g h 0 0; eats = 99;");
         nothing.minutes(1);
         rat("going with nothing", nothing, 0, 1, 2, 0, -2, 0, 0, 0, 0, 0);
+
+        RatSorters idle = Check.of("grain g 0 2; hole h 2 g; rat r g h 0 0;");
+        idle.minutes(60);
+        rat("at the heap for long", idle, 0, 0, 0, 0, -2, 60, 0, 0, 0, -2);
 
         s.says("Promise 8", "NONE for others.");
         for (int none : new int[] {-1, 9, LEAST, LARGEST}) {

@@ -475,6 +475,14 @@ final class EdgesOfPlans {
             }
         }
         s.due("then(600, 3)", x.then(600, 3), 10);
+        RatSorters mixed = Check.of("grain a 4 3; grain b 4 5; grain c 3 1; hole h 1 a; hole i 1 b; hole j 1 c;"
+                + " rat p b h 0 7; rat q c i 0 4; rat r a j 3 1;");
+        s.due("all in others", mixed.then(2, 4), 11);
+        s.due("none in theirs", mixed.then(2, 3), 0);
+        s.due("the fullest house", fullest().then(600, 4), 0);
+        s.due("the fullest house: in theirs", fullest().then(600, 3), 6 * 9);
+        s.due("the fullest house: worth", fullest().then(600, 0), 9 * (1 + 2 + 3 + 4 + 5 + 6));
+        s.due("the fullest house: by twenty seeds", fullest().mean(20, 600), 0);
         x.minutes(1);
         x.give(2, 0, 2);
         s.due("eaten so far", x.then(0, 1), 2);
@@ -488,6 +496,16 @@ final class EdgesOfPlans {
             s.none("then(0, " + none + ")", x, y -> y.then(0, none));
         }
         s.still("of nothing", new RatSorters(), 0, y -> y.then(600, 0));
+    }
+
+    /** As many of all as can be told; each of six grains goes to its hole. */
+    private static RatSorters fullest() {
+        String text = "wants 1;wants 2;wants 3;wants 4;wants 5;";
+        for (int i = 0; i < 6; i++) {
+            char c = (char) ('a' + i);
+            text += "grain g" + c + " 9 " + (i + 1) + ";hole h" + c + " 1 g" + c + ";rat r" + c + " g" + c + " h" + c + " 0 0;";
+        }
+        return Check.of(text + "rat rg ga ha 0 0;rat rh gf hf 0 0;");
     }
 
     private void lies() {
@@ -553,6 +571,15 @@ final class EdgesOfPlans {
         return Check.of(text);
     }
 
+    /** All know a, of which there is none; of b there is a load. */
+    private static String eightRats() {
+        String text = "grain a 0 1; grain b 5 1; hole h 1 b;";
+        for (char rat = 'p'; rat <= 'w'; rat++) {
+            text += "rat " + rat + " a h 0 0;";
+        }
+        return text;
+    }
+
     private void taught() {
         s.says("Promise 25", "TAUGHT for a set of RATS (bits, 1 to 4 of them), n 1 .. 300: WORTH;");
         RatSorters x = fiveRats();
@@ -563,13 +590,31 @@ final class EdgesOfPlans {
         s.still("300 minutes", x, 9, y -> y.taught(15, 300));
         x.pour(2, 100);
         s.still("more was poured", x, 109, y -> y.taught(15, 300));
+        s.still("more was poured: one rat, behind 2", x, 5, y -> y.taught(1, 2));
+        x.hold(0);
+        x.give(0, 2, 109);
+        s.still("all is gone", x, 0, y -> y.taught(1, 2));
+        x.restore(0);
+        s.still("gone on from ahead of that", x, 5, y -> y.taught(1, 2));
+        x.give(0, 2, 109);
+        s.still("all is gone again", x, 0, y -> y.taught(1, 2));
+        x.undo();
+        s.still("that is undone", x, 5, y -> y.taught(1, 2));
+        Check.read(x, "grain a 5 7; hole h 1 a; rat p a h 0 0;");
+        s.still("another text, of one grain", x, 35, y -> y.taught(1, 2));
+        Check.read(x, eightRats());
+        s.still("the last of eight", x, 5, y -> y.taught(128, 2));
+        s.still("the last of eight: which", x, 1, y -> y.taughtAt(128, 2, 0));
+        s.still("the last four of eight: which", x, 1, y -> y.taughtAt(240, 2, 3));
 
         s.says("Promise 25", "NONE: no such ones, no GRAINS.");
+        s.none("a ninth rat", x, y -> y.taught(256, 5));
+        RatSorters five = fiveRats();
         for (int none : new int[] {0, 31, 32, 33, 64, 256, -1, LEAST, LARGEST}) {
-            s.none("taught(" + none + ", 5)", x, y -> y.taught(none, 5));
+            s.none("taught(" + none + ", 5)", five, y -> y.taught(none, 5));
         }
         for (int none : new int[] {0, -1, 301, LEAST, LARGEST}) {
-            s.none("taught(1, " + none + ")", x, y -> y.taught(1, none));
+            s.none("taught(1, " + none + ")", five, y -> y.taught(1, none));
         }
         s.none("no grains", new RatSorters(), y -> y.taught(1, 5));
         s.none("no rats", Check.of("grain a 1 1; hole h 1 a;"), y -> y.taught(1, 5));
@@ -585,6 +630,7 @@ final class EdgesOfPlans {
             s.still("the " + i + "-th of four", x, due[i], y -> y.taughtAt(30, 2, at));
         }
         s.still("the last rat alone", x, 2, y -> y.taughtAt(16, 2, 0));
+        s.still("of one grain", Check.of("grain a 5 7; hole h 1 a; rat p a h 0 0; rat q a h 0 0;"), 0, y -> y.taughtAt(3, 2, 1));
 
         s.says("Promise 26", "NONE: no such ones, not so many in the set.");
         for (int none : new int[] {-1, 4, 5, LEAST, LARGEST}) {
@@ -623,6 +669,9 @@ final class EdgesOfPlans {
         s.still("never: by", never, -2, y -> y.bestSwap(1));
         s.still("of nothing: which", new RatSorters(), -2, y -> y.bestSwap(0));
         s.still("of nothing: by", new RatSorters(), 0, y -> y.bestSwap(1));
+        RatSorters little = Check.of("grain a 1 1; hole h 2 a; hole i 1 a; rat r a h 0 0;");
+        s.still("a minute less: which", little, 1, y -> y.bestSwap(0));
+        s.still("a minute less: by", little, 2, y -> y.bestSwap(1));
         s.still("of one hole", Check.of("grain a 1 1; hole h 3 a; rat r a h 0 0;"), -2, y -> y.bestSwap(0));
 
         s.says("Promise 27", "NONE for others.");

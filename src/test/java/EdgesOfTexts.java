@@ -97,6 +97,7 @@ final class EdgesOfTexts {
         fine(" ".repeat(1994) + "odd 5;");
         fault(" ".repeat(1999) + "?", 1, 1999);
         fault(" ".repeat(1997) + "odd", 1, 2000);
+        fault(" ".repeat(1994) + "seed 5", 1, 2000);
         RatSorters x = new RatSorters();
         Check.feed(x, " ".repeat(1994) + "odd 5;");
         s.due("one more than 2,000", x.feed(0x20202020, 0x20202020, 0x20202020, 0x20202020, 0x20202020), -1);
@@ -132,6 +133,7 @@ final class EdgesOfTexts {
             fine("grain " + word.substring(1) + " 1 2;");
         }
         fault("grain aaaaaaaa 1 1; grain aaaaaaab 1 1; grain aaaaaaa 1 1; grain aaaaaaaa 1 1;", 3, 65);
+        fine("grain ab 1 1; grain ba 1 1; grain a 1 1; grain aa 1 1; grain zzzzzzzz 1 1; grain zzzzzzz 1 1;");
     }
 
     private void ints() {
@@ -323,7 +325,9 @@ final class EdgesOfTexts {
         s.due("the last LOAD", z.heap(1), 43);
         s.due("the last EATS", z.rat(7, 2), 5);
         s.due("the last ERRS", z.rat(7, 8), 0);
+        // Twice ahead, since what a text tells may be kept in a row that is used for every other text.
         RatSorters again = Check.of("load = 9; eats = 2; errs = 100;");
+        Check.read(again, "load = 9; eats = 2; errs = 100;");
         Check.read(again, house);
         again.minutes(1);
         s.due("not told by the latest text: loads 5", again.heap(1), 45);
@@ -344,6 +348,13 @@ final class EdgesOfTexts {
         s.due("pays 0", x.count(6), 0);
         x.sell(1);
         s.due("pays 9999", x.count(6), 9999);
+        RatSorters four = Check.of("grain a 1 1; grain b 1 1; grain c 1 1; grain d 1 1; hole ha 1 a; hole hb 1 b; hole hc 1 c;"
+                + " hole hd 2 d; rat ra a ha 0 0; rat rb b hb 0 0; rat rc c hc 0 0; rat rd d hd 0 0; wants 5 a 1 b 1 c 1 d 1;");
+        four.minutes(2);
+        s.due("the 4th is not there yet", four.sell(0), false);
+        four.minutes(1);
+        s.due("all four are there", four.sell(0), true);
+        s.due("all four are gone", four.count(15), 0);
     }
 
     private void lamp() {
@@ -411,6 +422,7 @@ final class EdgesOfTexts {
     /** Whether LAMP, ODD and SEED are as if not told, whatever the text ahead told. */
     private int untold() {
         RatSorters x = Check.of("lamp 0; odd 1; seed 9999;");
+        Check.read(x, "lamp 0; odd 1; seed 9999;");
         Check.read(x, "grain g 9 1; grain z 9 1; hole h 1 g; hole i 1 g; rat r g h 0 0; errs = 84;");
         return x.then(1, 2) == 13 && x.lies(2, 1, 0) == 5 && x.then(60, 1) == 1 ? 1 : 0;
     }
@@ -513,6 +525,7 @@ final class EdgesOfTexts {
         s.says(TERMS, "a GRAIN again in one 'wants' (at its NAME).");
         fault("grain g 1 1; wants 5 g 1 g 2;", 3, 25);
         fault("grain g 1 1; grain i 1 1; wants 5 g 1 i 1 g 0;", 3, 42);
+        fault(SIX_GRAINS + "wants 5 a 1 b 1 c 1 a 1;", 3, SIX_GRAINS.length() + 20);
         fine("grain g 1 1; wants 5 g 1; wants 5 g 1;");
     }
 
@@ -528,6 +541,13 @@ final class EdgesOfTexts {
         fault("wants 5 g 1; grain g 1 1;", 4, 8);
         fault("grain g 1 1; hole h 1 g; wants 5 h 1;", 4, 33);
         fault("grain abc 1 1; hole h 1 ab;", 4, 24);
+        fault(SIX_GRAINS + "wants 5 a 1 b 1 c 1 g 1;", 4, SIX_GRAINS.length() + 20);
+        // What the text ahead told is not told ahead in this one.
+        RatSorters x = Check.of("grain a 1 1; grain b 1 1; grain c 1 1; hole h 1 c;");
+        s.due("a grain of another text", Check.read(x, "grain a 1 1; hole h 1 c;"), 4);
+        s.due("a grain of another text: place", x.place(), 22);
+        s.due("a hole of another text", Check.read(x, "grain a 1 1; rat r a h 1 1;"), 4);
+        s.due("a hole of another text: place", x.place(), 21);
     }
 
     private void wrong() {
@@ -538,6 +558,7 @@ final class EdgesOfTexts {
         fault("grain g 1 1; hole h 30 g; rat r g h 10 1;", 5, 36);
         fault("grain g 1 1; hole h 30 g; rat r g h 1 100;", 5, 38);
         fault("grain g 1 1; wants 5 g 0000;", 5, 23);
+        fault(SIX_GRAINS + "wants 5 a 1 b 1 c 1 d 0;", 5, SIX_GRAINS.length() + 22);
         fault("odd 0;", 5, 4);
         fault("odd 0100;", 5, 4);
         fine("load = 0; eats = 9999; errs = 9999;");
@@ -587,8 +608,10 @@ final class EdgesOfTexts {
         x.teach(1, 1);
         x.send(1, true);
         x.cat(9);
+        x.minutes(2);
         x.pour(0, 5);
         x.tell(0, 0, 1, 0);
+        s.due("one is hungry", x.rat(0, 4) > 0, true);
         for (int slot = 0; slot < 3; slot++) {
             x.hold(slot);
         }
@@ -611,8 +634,24 @@ final class EdgesOfTexts {
         for (int slot = 0; slot < 3; slot++) {
             s.due("restore(" + slot + ")", x.restore(slot), false);
         }
+        inPlaceAgain();
         s.due("an empty text is one, too", x.read(), 0);
         s.due("nothing is there then", x.count(0) + x.count(1) + x.count(2) + x.count(3) + x.count(15), 0);
+    }
+
+    /** The fullest texts, one in place of another: each is read as if it were the first. */
+    private void inPlaceAgain() {
+        RatSorters x = new RatSorters();
+        String full = SIX_GRAINS + SIX_HOLES + EIGHT_RATS + "wants 1 a 1 b 1 c 1 d 1;".repeat(5);
+        String longest = "grain g 99 1;hole h 1 g;rat r g h 0 0;wants 1;wants 1;wants 1;wants 1;wants 1;load=";
+        for (int i = 0; i < 6; i++) {
+            s.due("full " + i, Check.read(x, full), 0);
+            s.due("full " + i + ": not enough", x.sell(i % 5), false);
+            s.due("longest law " + i, Check.read(x, longest + i + "+1*3".repeat(80) + "-225;"), 0);
+            x.minutes(1);
+            s.due("longest law " + i + ": loads", x.rat(0, 2), 15 + i);
+            s.due("who wanted something wants nothing now", x.sell(i % 5), true);
+        }
     }
 
     private void newObject() {
@@ -673,6 +712,15 @@ final class EdgesOfTexts {
         x.feed(1, 2, 3, 4, 5);
         s.due("back(20), all", x.back(20), 0);
         s.due("read of none", x.read(), 0);
+        // What went is no part of a token that is left.
+        Check.feed(x, "seed 12345          ");
+        s.due("back(11)", x.back(11), 9);
+        s.due("it ends behind 1234", x.read(), 1);
+        s.due("it ends behind 1234: place", x.place(), 9);
+        Check.feed(x, "hole abcdefghi      ");
+        s.due("back(7)", x.back(7), 13);
+        s.due("it ends behind abcdefgh", x.read(), 1);
+        s.due("it ends behind abcdefgh: place", x.place(), 13);
 
         s.says("Promise 3", "NONE, and nothing goes, if it has not so many, or n is below 0.");
         s.none("back(1) of nothing", x, y -> y.back(1));

@@ -17,6 +17,7 @@ final class Sentences {
     private final boolean[] said;
     private String latest = "";
     private int askedOfLatest;
+    private int many;
 
     Sentences(Path path) throws IOException {
         doc = Files.readString(path).replaceAll("\\s+", " ");
@@ -25,6 +26,7 @@ final class Sentences {
 
     void says(String where, String sentence) {
         endLatest();
+        many++;
         latest = where + ", '" + sentence + "'";
         int end = endOf(where);
         int from = doc.indexOf(sentence, startOf(where));
@@ -92,7 +94,7 @@ final class Sentences {
         for (int promise = 1; promise <= PROMISES; promise++) {
             lookForUnsaid("Promise " + promise);
         }
-        check.end(name);
+        check.end(many + " " + name);
     }
 
     private void endLatest() {
