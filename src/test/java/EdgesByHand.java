@@ -367,20 +367,15 @@ final class EdgesByHand {
         RatSorters x = Check.of(TWO.replace("a 1;", "b 1;") + "hole j 1 b;");
         List<String> seen = new ArrayList<>();
         int[] order = {0, 1, 4, 7, 2, 3, 5, 6, 0};
+        Check.read(x, "odd 0;");
         x.minutes(3);
         for (int i : order) {
             seen.add(Sentences.seen(x));
             doThing(x, i);
             s.due("thing " + i + " can be seen", Sentences.seen(x).equals(seen.get(seen.size() - 1)), false);
         }
-        // What is no thing done is passed over: refused calls, what would be, what is told, held, fed, read in vain.
-        x.minutes(0);
-        x.pour(0, 0);
-        x.swap(0, 0);
-        x.then(600, 0);
-        x.tell(0, 0, 0, 0);
-        x.forget();
-        x.hold(0);
+        doNoThing(x);
+        s.due("nothing more was done", x.count(12), order.length + 1);
         for (int i = order.length - 1; i >= 0; i--) {
             s.due("undo of thing " + order[i], x.undo(), true);
             s.due("as ahead of thing " + order[i] + ", the slot aside", sameBut14(Sentences.seen(x), seen.get(i)), true);
@@ -397,6 +392,29 @@ final class EdgesByHand {
         y.undo();
         s.due("undone, done, undone", y.heap(0), 12);
         s.due("one is left", y.count(12), 1);
+    }
+
+    /** What is no thing done: refused calls, what would be, what is told, held, fed, read in vain. */
+    private static void doNoThing(RatSorters x) {
+        x.minutes(0);
+        x.minutes(601);
+        x.pour(0, 0);
+        x.swap(0, 0);
+        x.teach(0, 2);
+        x.give(0, 0, 0);
+        x.send(0, false);
+        x.cat(0);
+        x.sell(1);
+        x.then(600, 0);
+        x.taught(3, 9);
+        x.catAt(9, 0);
+        x.tell(0, 0, 0, 0);
+        x.jokes(1, -1);
+        x.forget();
+        x.hold(0);
+        x.hold(3);
+        x.restore(1);
+        Check.read(x, "odd 0;");
     }
 
     /** Whether two are seen alike, but for how many slots hold something. */
