@@ -43,9 +43,7 @@ public final class RatSorters {
 
     private final char[] tape = new char[MOST_BYTES];
     private final Tokens tokens = new Tokens();
-    private final Grammar grammar = new Grammar();
-    private final Teller teller = new Teller();
-    private final Mill mill = new Mill();
+    private final Grammar grammar = new Grammar(tokens);
     private final Planner planner = new Planner();
     private final Facts facts = new Facts();
     private final House house = new House();
@@ -53,6 +51,8 @@ public final class RatSorters {
     private final House[] slots = new House[MOST_SLOTS];
     private Text text = new Text();
     private Text draft = new Text();
+    private final Teller teller = new Teller(tokens, draft);
+    private final Mill mill = new Mill(text);
     private int tapeLength;
     private int faultPlace = NONE;
     private int pastEnd;
@@ -86,10 +86,10 @@ public final class RatSorters {
     public int read() {
         tokens.scan(tape, tapeLength);
         tapeLength = 0;
-        int fault = grammar.check(tokens);
+        int fault = grammar.check();
         int at = grammar.at;
         if (fault == 0) {
-            fault = teller.fill(tokens, draft);
+            fault = teller.fill(draft);
             at = teller.at;
         }
         if (fault != 0) {
@@ -158,7 +158,7 @@ public final class RatSorters {
             return below ? 1 : 0;
         }
         int own = house.inHole(hole, text.owns[hole]);
-        int common = commonDivisor(own, all);
+        int common = Math.max(1, commonDivisor(own, all));
         return (below ? all : own) / common;
     }
 
@@ -497,7 +497,7 @@ public final class RatSorters {
             larger = smaller;
             smaller = rest;
         }
-        return Math.max(1, larger);
+        return larger;
     }
 
     /** A text's tokens as rows, made once and used for every text. */
@@ -550,7 +550,7 @@ public final class RatSorters {
         void scan(char[] tape, int length) {
             many = 0;
             int at = behindBlanks(tape, 0, length);
-            while (at < length && many <= MOST_TOKENS) {
+            for (int i = 0; i <= MOST_TOKENS && at < length; i++) {
                 int end = endOf(tape, at, length);
                 add(tape, at, end);
                 at = behindBlanks(tape, end, length);
@@ -660,14 +660,17 @@ public final class RatSorters {
 
     /** Looks for the first SYNTAX or ROOM fault; behind it a text has the shape that is told. */
     private static final class Grammar {
-        Tokens tokens;
+        final Tokens tokens;
         int at;
         int fault;
         /** How many of each sort were begun, by the word that begins them. */
         final int[] begun = new int[Tokens.SEED + 1];
 
-        int check(Tokens read) {
+        Grammar(Tokens read) {
             tokens = read;
+        }
+
+        int check() {
             at = 0;
             fault = 0;
             for (int word = 0; word < begun.length; word++) {
@@ -853,15 +856,19 @@ public final class RatSorters {
         /** The word that told each NAME, and its number among those of its sort. */
         final int[] sorts = new int[MOST_NAMES];
         final int[] numbers = new int[MOST_NAMES];
+        final Tokens tokens;
         int manyNames;
-        Tokens tokens;
         Text text;
         int at;
         int fault;
 
-        int fill(Tokens read, Text empty) {
+        Teller(Tokens read, Text draft) {
             tokens = read;
-            text = empty;
+            text = draft;
+        }
+
+        int fill(Text draft) {
+            text = draft;
             text.clear();
             manyNames = 0;
             at = 0;
@@ -1423,6 +1430,10 @@ public final class RatSorters {
         final int[] known = new int[Laws.MANY_VARS];
         /** The GRAINS (bits) that were loaded of in this MINUTE. */
         int loaded;
+
+        Mill(Text told) {
+            text = told;
+        }
 
         void use(Text told) {
             text = told;
