@@ -1154,11 +1154,12 @@ public final class RatSorters {
                 if (step == -Tokens.SEMICOLON) {
                     return top > 0 ? stack[top - 1] : 0;
                 }
-                if (step > -Tokens.SEMICOLON && step != -Tokens.THEN) {
+                boolean isVar = step <= -Tokens.HUNGER && step >= -Tokens.TRIPS;
+                if (isVar || step >= 0) {
                     if (top >= MOST_WAITING) {
                         return 0;
                     }
-                    stack[top] = step >= 0 ? step : known[-step - Tokens.HUNGER];
+                    stack[top] = isVar ? known[-step - Tokens.HUNGER] : step;
                     top++;
                 } else {
                     if (top < 2) {

@@ -2,15 +2,11 @@ import java.lang.reflect.Constructor;
 import java.lang.reflect.Field;
 import java.lang.reflect.Method;
 import java.lang.reflect.Modifier;
-import java.nio.file.Files;
-import java.nio.file.Path;
 import java.util.Set;
 import java.util.TreeSet;
-import java.util.regex.Matcher;
-import java.util.regex.Pattern;
 
-/** The class's face is the document's, and its source keeps to what of LANGUAGE.md can be seen by plain means. */
-public final class SourceRulesTest {
+/** The class's face is the document's; its members are as many and as visible as LANGUAGE.md lets them be. */
+public final class FaceTest {
     private static final Check CHECK = new Check();
     private static final String FACE = "int feed(int,int,int,int,int); int back(int); int read(); int place(); int heap(int);"
             + " int hole(int,int); int rat(int,int); int worth(int); int pure(int,boolean); int minutes(int);"
@@ -20,16 +16,12 @@ public final class SourceRulesTest {
             + " int bestSwap(int); int missed(int,int); int catAt(int,int); int starves(int); int mean(int,int);"
             + " int sales(int); int tell(int,int,int,int); int forget(); int jokes(int,int); boolean hold(int);"
             + " boolean restore(int); int count(int)";
-    /** What the language leaves out, as words outside comments and texts. */
-    private static final String[] LEFT_OUT = {"throw", "throws", "try", "catch", "finally", "synchronized", "assert",
-        "import", "package", "protected", "volatile", "native", "yield", "float", "double", "Object", "equals",
-        "hashCode", "toString", "System.out", "System.currentTimeMillis", "System.nanoTime", "Random", "Thread"};
 
-    public static void main(String[] args) throws Exception {
+    public static void main(String[] args) {
         face();
         names();
-        source(Files.readString(Path.of("src/main/java/RatSorters.java")));
-        CHECK.end("source rules");
+        fields(RatSorters.class);
+        CHECK.end("face");
     }
 
     private static void face() {
@@ -84,11 +76,7 @@ public final class SourceRulesTest {
                 CHECK.due("a name of its own: " + m, open.contains(m.getName()), false);
                 CHECK.due("parameters of " + m, m.getParameterCount() <= 7, true);
             }
-            int fields = 0;
-            for (Field f : inside.getDeclaredFields()) {
-                fields += Modifier.isStatic(f.getModifiers()) ? 0 : 1;
-            }
-            CHECK.due("some twenty fields: " + inside.getName(), fields <= 20, true);
+            fields(inside);
         }
         for (Method m : RatSorters.class.getDeclaredMethods()) {
             if (!Modifier.isPublic(m.getModifiers())) {
@@ -97,26 +85,11 @@ public final class SourceRulesTest {
         }
     }
 
-    private static void source(String source) {
-        String bare = source.replaceAll("(?s)/\\*.*?\\*/", " ").replaceAll("//[^\n]*", " ");
-        String code = bare.replaceAll("\"[^\"\n]*\"", "\"\"");
-        for (String word : LEFT_OUT) {
-            CHECK.due("left out: " + word, Pattern.compile("\\b" + Pattern.quote(word) + "\\b").matcher(code).find(), false);
+    private static void fields(Class<?> owner) {
+        int fields = 0;
+        for (Field f : owner.getDeclaredFields()) {
+            fields += Modifier.isStatic(f.getModifiers()) ? 0 : 1;
         }
-        CHECK.due("no lambda, no method reference", code.contains("->") || code.contains("::"), false);
-        CHECK.due("no texts joined by +", Pattern.compile("\"\"\\s*\\+|\\+\\s*\"\"").matcher(code).find(), false);
-        for (int i = 0; i < source.length(); i++) {
-            if (source.charAt(i) > 126) {
-                CHECK.fail("a sign that is none of 1 to 127 at " + i);
-            }
-        }
-        Matcher method = Pattern.compile("(?m)^( {4}| {8})(?=[a-z])[^;={}]*\\) \\{\n(.*?\n)??\\1\\}", Pattern.DOTALL).matcher(code);
-        int methods = 0;
-        while (method.find()) {
-            methods++;
-            long lines = method.group().lines().count();
-            CHECK.due("some sixty lines: " + method.group().lines().findFirst().orElse(""), lines <= 62, true);
-        }
-        CHECK.due("methods were seen", methods > 80, true);
+        CHECK.due("some twenty fields: " + owner.getName(), fields <= 20, true);
     }
 }
